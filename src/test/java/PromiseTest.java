@@ -78,6 +78,8 @@ public final class PromiseTest {
             int even = (1 << clamped) + 4;
             int twos = Integer.numberOfTrailingZeros(even);
             holds(x, 0, -even >> twos, twos);
+            due("load of its opposite", x.load(0, (1 << clamped) + 3, 0), 1);
+            holds(x, 0, even >> twos, twos);
         }
     }
 
