@@ -199,7 +199,30 @@ public final class TermsBoundaryTest {
                 "load(2, -1, -12) = 0",
                 "fuse(3, 36) = 1", "number(3) = " + (s > 0 ? "1 * 2^3" : "-5 * 2^1"));
         }
+        closeCalls();
         ties();
+    }
+
+    /** The roots and quotients of precision 10 that lie closest to a midpoint or to a number. */
+    private static void closeCalls() {
+        Runs.sentence("NEAREST gives the nearer one: a root or a quotient hardly off the middle");
+        Runs.runInMode(NEAREST, 10, "load(0, 1023, -10) = 0", "root(1, 0) = 1", "number(1) = 1023 * 2^-10",
+            "load(0, 851, -10) = 0", "root(1, 0) = 1", "number(1) = 467 * 2^-9",
+            "load(0, 1, -11) = 0", "root(1, 0) = 1", "number(1) = 91 * 2^-12",
+            "load(0, 512, 0) = 0", "load(1, 1023, 0) = 0", "div(2, 0, 1) = 1", "number(2) = 513 * 2^-10",
+            "load(0, -917, 0) = 0", "load(1, 1019, 0) = 0", "div(2, 0, 1) = 1", "number(2) = -921 * 2^-10");
+
+        Runs.sentence("DOWN gives a: a root or a quotient hardly off a number");
+        Runs.runInMode(DOWN, 10, "load(0, 511, -11) = 0", "root(1, 0) = 1", "number(1) = 511 * 2^-10",
+            "load(0, 347, -11) = 0", "root(1, 0) = 1", "number(1) = 843 * 2^-11",
+            "load(0, 1022, 0) = 0", "load(1, 1023, 0) = 0", "div(2, 0, 1) = 1", "number(2) = 511 * 2^-9",
+            "load(0, -681, 0) = 0", "load(1, 1021, 0) = 0", "div(2, 0, 1) = 1", "number(2) = -171 * 2^-8");
+
+        Runs.sentence("UP gives b: a root or a quotient hardly off a number");
+        Runs.runInMode(UP, 10, "load(0, 511, -11) = 0", "root(1, 0) = 1", "number(1) = 1023 * 2^-11",
+            "load(0, 347, -11) = 0", "root(1, 0) = 1", "number(1) = 211 * 2^-9",
+            "load(0, -1022, 0) = 0", "load(1, 1023, 0) = 0", "div(2, 0, 1) = 1", "number(2) = -511 * 2^-9",
+            "load(0, 681, 0) = 0", "load(1, 1021, 0) = 0", "div(2, 0, 1) = 1", "number(2) = 171 * 2^-8");
     }
 
     private static void ties() {
