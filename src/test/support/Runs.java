@@ -109,7 +109,7 @@ final class Runs {
         return text.equals("false") ? 0 : Integer.parseInt(text);
     }
 
-    private static int answerOf(RoundedFloats x, String name, int[] given) {
+    static int answerOf(RoundedFloats x, String name, int[] given) {
         switch (name) {
             case "precision": return x.precision();
             case "setMode": return x.setMode(given[0]) ? 1 : 0;
